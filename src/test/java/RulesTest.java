@@ -1,0 +1,169 @@
+import java.lang.management.ManagementFactory;
+import java.lang.reflect.Constructor;
+import java.lang.reflect.Field;
+import java.lang.reflect.Method;
+import java.lang.reflect.Modifier;
+import java.nio.file.Files;
+import java.nio.file.Path;
+import java.util.ArrayList;
+import java.util.Arrays;
+import java.util.List;
+import java.util.Set;
+import java.util.TreeSet;
+import java.util.regex.Matcher;
+import java.util.regex.Pattern;
+
+/** The public face, what of LANGUAGE.md can be read off the source, and that calls make nothing new. */
+public final class RulesTest {
+    private static final String FACE = "int row(int,int,int)|int set(int,int,long)|int copy(int,int,int,int,int)"
+            + "|long element(int,int)|int holds(int)|int show(int,int)|int says(int,int)|int sides(int)"
+            + "|int thing(int,int,int)|int worth(int,int,int)|int bent(int,int)|int law(int)|int order(int,int)"
+            + "|int turn(int)|int own(int,int)|int feed(int)|int wipe()|int estate()|int thingOf(int,int)"
+            + "|int sideOf(int,int)|int whose(int,int)|int runs(int,int)|long powers(int,int,int)|int rival(int)"
+            + "|int takes(int)|int run(int,int)|int gets(int,int)|int unequal(int)|int game(int,int)"
+            + "|int opening(int)|int fairest(int)|int best()|int sham(int,int)|int judge(int,int)"
+            + "|int stolen(int,int)|int fits(int,int,int)|int trades(int)|int swap(int,int)|int pick(int)"
+            + "|int goes(int)|int books(int,int)|int again()|int deal(int)|int seed(int)|int image()|int back()"
+            + "|int status(int)";
+    private static final String[] NOT_IN_IT = {"\\bthrow\\b", "\\bthrows\\b", "\\btry\\b", "\\bcatch\\b",
+        "\\bsynchronized\\b", "\\bassert\\b", "\\bimport\\b", "->", "::", "\\bSystem\\.(?!arraycopy)", "\\bObject\\b",
+        "\\bException\\b", "\\bvar\\b", "\\bstatic\\s*\\{", "\\bdouble\\b", "\\bfloat\\b", "Exact\\b", "\\bvolatile\\b",
+        "\"\\s*\\+", "\\+\\s*\"", "[^\\x00-\\x7f]", "\\bpackage\\b", "\\bhashCode\\b", "\\bequals\\b"};
+
+    private final Due d = new Due("RulesTest");
+
+    private void face() {
+        Class<?> c = FirstAtTheFirst.class;
+        d.that("public and final", Modifier.isPublic(c.getModifiers()) && Modifier.isFinal(c.getModifiers()));
+        Set<String> found = new TreeSet<>();
+        Set<String> names = new TreeSet<>();
+        for (Method m : c.getDeclaredMethods()) {
+            if (!Modifier.isPrivate(m.getModifiers())) {
+                StringBuilder told = new StringBuilder(m.getReturnType() + " " + m.getName() + "(");
+                for (int i = 0; i < m.getParameterCount(); i++) {
+                    told.append(i == 0 ? "" : ",").append(m.getParameterTypes()[i]);
+                }
+                found.add(told.append(")").toString());
+                names.add(m.getName());
+                d.due("modifiers of " + m.getName(), m.getModifiers(), Modifier.PUBLIC);
+            }
+        }
+        Set<String> want = new TreeSet<>(Arrays.asList(FACE.split("\\|")));
+        d.due("how many methods", found.size(), 47);
+        d.that("the face is " + want + ", not " + found, want.equals(found));
+        for (Method m : privateMethods(c)) {
+            d.that("no private method is named " + m.getName(), !names.contains(m.getName()));
+            d.that("at most seven parameters: " + m.getName(), m.getParameterCount() <= 7);
+        }
+        for (Field f : c.getDeclaredFields()) {
+            boolean isNone = f.getName().equals("NONE");
+            d.that("field " + f.getName(), Modifier.isPrivate(f.getModifiers()) != isNone);
+        }
+        d.due("constructors", c.getDeclaredConstructors().length, 1);
+        for (Constructor<?> k : c.getDeclaredConstructors()) {
+            d.that("the constructor", Modifier.isPublic(k.getModifiers()) && k.getParameterCount() == 0);
+        }
+        d.due("NONE", FirstAtTheFirst.NONE, -1);
+        classes(c);
+    }
+
+    private static List<Method> privateMethods(Class<?> c) {
+        List<Method> found = new ArrayList<>();
+        for (Method m : c.getDeclaredMethods()) {
+            if (Modifier.isPrivate(m.getModifiers())) {
+                found.add(m);
+            }
+        }
+        for (Class<?> inside : c.getDeclaredClasses()) {
+            found.addAll(Arrays.asList(inside.getDeclaredMethods()));
+        }
+        return found;
+    }
+
+    private void classes(Class<?> c) {
+        d.that("at most twelve classes", c.getDeclaredClasses().length < 12);
+        List<Class<?>> all = new ArrayList<>(Arrays.asList(c.getDeclaredClasses()));
+        for (Class<?> inside : all) {
+            d.that(inside + " is static", Modifier.isStatic(inside.getModifiers()));
+            d.that(inside + " isn't public", !Modifier.isPublic(inside.getModifiers()));
+        }
+        all.add(c);
+        for (Class<?> one : all) {
+            int fields = 0;
+            for (Field f : one.getDeclaredFields()) {
+                boolean isConstant = Modifier.isStatic(f.getModifiers());
+                fields += isConstant ? 0 : 1;
+                d.that(f + " is final if static", !isConstant || Modifier.isFinal(f.getModifiers()));
+            }
+            d.that(one + " has at most twenty fields", fields <= 20);
+        }
+    }
+
+    private void source() throws Exception {
+        String text = Files.readString(Path.of("src/main/java/FirstAtTheFirst.java"));
+        String code = text.replaceAll("(?s)/\\*.*?\\*/", "").replaceAll("//[^\n]*", "");
+        for (String unwanted : NOT_IN_IT) {
+            Matcher m = Pattern.compile(unwanted).matcher(code);
+            d.that("no " + unwanted + " in the source", !m.find());
+        }
+        d.that("nothing new but in fields", !Pattern.compile("\n {8}(?: {4})+[^\n]*\\bnew\\b").matcher(code).find());
+        int begun = 0;
+        String[] lines = text.split("\n");
+        for (int i = 0; i < lines.length; i++) {
+            if (lines[i].matches(" {4}(?: {4})?[a-z].*\\) \\{")) {
+                begun = i;
+            }
+            if (lines[i].matches(" {4}(?: {4})?\\}")) {
+                d.that("short up to line " + (i + 1), i - begun <= 60 || begun == 0 || lines[i].length() == 5);
+            }
+            d.that("line " + (i + 1) + " isn't long", lines[i].length() <= 120);
+        }
+    }
+
+    /** All calls there are, with things that make them think hardest; what they answer is of no account. */
+    private static long callAll(FirstAtTheFirst x) {
+        long sum = x.wipe() + x.sides(3) + x.deal(8) + x.image();
+        for (int side = 0; side < 3; side++) {
+            sum += x.bent(side, 5 - side) + x.sham(side, 0) + x.takes(side) + x.rival(side) + x.show(side + 2, side);
+            sum += x.says(side + 2, 0) + x.gets(side, side) + x.game(side, side) + x.sideOf(side, 1);
+        }
+        sum += x.row(0, 2, 40) + x.set(0, 1, 1) + x.copy(0, 0, 0, 1, 8) + x.element(0, 0) + x.holds(0);
+        sum += x.order(0, 12) + x.worth(0, 0, 1) + x.law(1) + x.law(0) + x.own(0, NONE) + x.thingOf(0, 0);
+        for (char c : LETTERS) {
+            sum += x.feed(c);
+        }
+        sum += x.estate() + x.whose(2, 1000000000) + x.runs(2, 4000) + x.powers(2, 1000, 3) + x.run(1, 7);
+        sum += x.unequal(2) + x.opening(2) + x.fairest(0) + x.best() + x.judge(0, 8) + x.stolen(0, 8);
+        sum += x.fits(0, 1, 0) + x.goes(3) + x.trades(1) + x.swap(0, 1) + x.pick(2) + x.books(0, 1) + x.again();
+        return sum + x.turn(0) + x.seed(7) + x.thing(1, 1, 1) + x.back() + x.status(6);
+    }
+
+    private static final int NONE = FirstAtTheFirst.NONE;
+    private static final char[] LETTERS = "law 2;bent 1 5;order 0 1 2;turn 77;owns 0 3;owns 1 1 ?".toCharArray();
+
+    private void room() {
+        var bean = (com.sun.management.ThreadMXBean) ManagementFactory.getThreadMXBean();
+        FirstAtTheFirst x = new FirstAtTheFirst();
+        long sum = callAll(x);
+        long[] made = new long[8];
+        for (int i = 0; i < made.length; i++) {
+            long before = bean.getCurrentThreadAllocatedBytes();
+            sum += callAll(x);
+            made[i] = bean.getCurrentThreadAllocatedBytes() - before;
+        }
+        Arrays.sort(made);
+        d.due("bytes made by all calls together (of sum " + sum + ")", made[0], 0);
+        long before = bean.getCurrentThreadAllocatedBytes();
+        FirstAtTheFirst y = new FirstAtTheFirst();
+        long own = bean.getCurrentThreadAllocatedBytes() - before;
+        d.that("an object takes less than 20,000 bytes, not " + own, own < 20000 && y.holds(0) == NONE);
+    }
+
+    public static void main(String[] args) throws Exception {
+        RulesTest t = new RulesTest();
+        t.face();
+        t.source();
+        t.room();
+        t.d.end();
+    }
+}
