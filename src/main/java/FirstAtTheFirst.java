@@ -1466,9 +1466,6 @@ public final class FirstAtTheFirst {
                 draft.orderSize = i + 1;
                 more = fault == NONE && kind == NUMBER;
             }
-            if (fault == NONE && kind == NUMBER) {
-                fault = begin;
-            }
         }
 
         private void readBent(Estate draft) {

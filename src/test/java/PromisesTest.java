@@ -464,6 +464,9 @@ public final class PromisesTest {
         fault("^7");
         fault("^lawn 1");
         fault("^Law 1");
+        fault("^lawz 1");
+        fault("^alaw 1");
+        fault("law ^a");
         fault("law\u0001 1".replace("\u0001", "^\u0001"));
         fault("law ^4");
         fault("law ^00001");
@@ -631,6 +634,8 @@ public final class PromisesTest {
         make(26, "thing 4 7;thing 6 7;thing 6 7");
         takenBy(1, 1);
         takenBy(2, 1);
+        make(26, "thing 99 7;thing 0 8");
+        takenBy(2, 1);
         make(26, "thing 9 2;thing 3 5;thing 8 2");
         takenBy(3, 0);
         x.own(1, 0);
@@ -760,6 +765,10 @@ public final class PromisesTest {
         is("fairest(0) by SPOILS", x.fairest(0), 0);
         is("fairest(1) by SPOILS", x.fairest(1), 1);
         is("fairest(2) by SPOILS", x.fairest(2), 1);
+        make(32, "sides 3;thing 0 10 0;thing 0 0 10;thing 5 5 5;thing 5 5 5;owns 1 0;owns 2 1");
+        is("fairest(-1), no SIDE two more than another", x.fairest(-1), 10);
+        is("fairest(0), no SIDE two more than another", x.fairest(0), 0);
+        is("fairest(1), no SIDE two more than another", x.fairest(1), 1);
         make(32, "");
         is("fairest(-1) of nothing", x.fairest(-1), 0);
         refused("fairest(0) of nothing", () -> x.fairest(0), STUCK);

@@ -107,16 +107,17 @@ public final class RulesTest {
             d.that("no " + unwanted + " in the source", !m.find());
         }
         d.that("nothing new but in fields", !Pattern.compile("\n {8}(?: {4})+[^\n]*\\bnew\\b").matcher(code).find());
-        int begun = 0;
         String[] lines = text.split("\n");
         for (int i = 0; i < lines.length; i++) {
-            if (lines[i].matches(" {4}(?: {4})?[a-z].*\\) \\{")) {
-                begun = i;
-            }
-            if (lines[i].matches(" {4}(?: {4})?\\}")) {
-                d.that("short up to line " + (i + 1), i - begun <= 60 || begun == 0 || lines[i].length() == 5);
-            }
             d.that("line " + (i + 1) + " isn't long", lines[i].length() <= 120);
+            Matcher head = Pattern.compile("( {4}| {8})[a-z].*\\) \\{").matcher(lines[i]);
+            if (head.matches()) {
+                int end = i;
+                while (end < lines.length && !lines[end].equals(head.group(1) + "}")) {
+                    end++;
+                }
+                d.that("short from line " + (i + 1) + " on", end - i <= 60 || lines[i].matches(" {8}(for|if).*"));
+            }
         }
     }
 
