@@ -313,7 +313,6 @@ public final class FirstAtTheFirst {
         if (!now.isSide(side)) {
             return refuse(BAD);
         }
-        mind.know(now);
         mind.expectLaw(now, now.law);
         return mind.rivalOf(side, 0);
     }
@@ -673,7 +672,6 @@ public final class FirstAtTheFirst {
     private int wouldTake(int side, int bent) {
         mind.know(now);
         mind.expectLaw(now, now.law);
-        mind.expectFirst(side);
         return mind.choose(side, bent, mind.start);
     }
 
@@ -715,16 +713,17 @@ public final class FirstAtTheFirst {
     /** Puts FAIREST into fair; how UNEQUAL it is. */
     private int findFairest(int picks) {
         mind.know(now);
+        mind.expectNothing();
         long orders = power(now.sides, picks);
         int least = ABOVE_ALL;
-        for (int number = 0; number < orders && least > 0; number++) {
-            if (!spellOrder(number, picks)) {
+        for (int number = 0; number < orders; number++) {
+            if (!spellOrder(number, picks) || least == 0 && !isBefore(trial, fair, picks)) {
                 continue;
             }
             mind.expectRow(trial, picks);
             goOn(mind, NONE);
             int unequal = spread();
-            if (unequal < least) {
+            if (unequal < least || unequal == least && isBefore(trial, fair, picks)) {
                 least = unequal;
                 copyAll(trial, fair);
             }
@@ -732,11 +731,14 @@ public final class FirstAtTheFirst {
         return least;
     }
 
-    /** Puts a number's digits, the first the greatest, into trial; whether all SIDES have their share. */
+    /**
+     * Puts a number's digits into trial; whether all SIDES have their share. The last turn is the greatest
+     * digit, so that rows one after the other end alike, and Mind needn't look ahead anew for their ends.
+     */
     private boolean spellOrder(int number, int picks) {
         int n = now.sides > 2 ? SIDES_MOST : 2;
         int rest = number;
-        for (int i = picks - 1; i >= 0; i--) {
+        for (int i = 0; i < picks; i++) {
             put(trial, i, rest % n);
             rest = rest / n;
         }
@@ -752,6 +754,15 @@ public final class FirstAtTheFirst {
             }
         }
         return true;
+    }
+
+    private static boolean isBefore(int[] row, int[] other, int n) {
+        for (int i = 0; i < n; i++) {
+            if (at(row, i) != at(other, i)) {
+                return at(row, i) < at(other, i);
+            }
+        }
+        return false;
     }
 
     /** UNEQUAL of what is in has. */
@@ -955,10 +966,10 @@ public final class FirstAtTheFirst {
         private int turnCount;
         int start;
         private int startCount;
-        // By SIDE and set of THINGS LEFT: the WORTH that the SIDE still gets.
+        // By SIDE and set of THINGS LEFT: the WORTH that the SIDE still gets (of no THINGS always 0).
         private final int[] still = new int[SIDES_MOST * SETS];
-        // By SIDE: the set of whose sets still holds what the SIDE gets if it LOOKS.
-        private final int[] lookedInto = new int[SIDES_MOST];
+        // By SIDE: of how many THINGS are the greatest sets for which still holds what it gets if it LOOKS.
+        private final int[] looked = new int[SIDES_MOST];
 
         void know(Estate estate) {
             if (estate != null) {
@@ -982,20 +993,27 @@ public final class FirstAtTheFirst {
             }
         }
 
-        void expectRow(int[] row, int n) {
-            copyAll(row, turns);
-            turnCount = n;
+        void expectNothing() {
+            turnCount = 0;
             forgetLooks();
         }
 
-        void expectFirst(int side) {
-            put(turns, 0, side);
-            forgetLooks();
+        /** What is found for a set asks for as many turns as it has THINGS, so the end that rows share keeps it. */
+        void expectRow(int[] row, int n) {
+            int shared = 0;
+            while (shared < n && turnCount == n && at(row, n - 1 - shared) == at(turns, n - 1 - shared)) {
+                shared++;
+            }
+            for (int side = 0; side < SIDES_MOST; side++) {
+                put(looked, side, Math.min(shared, at(looked, side)));
+            }
+            copyAll(row, turns);
+            turnCount = n;
         }
 
         private void forgetLooks() {
             for (int side = 0; side < SIDES_MOST; side++) {
-                put(lookedInto, side, 0);
+                put(looked, side, 0);
             }
         }
 
@@ -1039,9 +1057,7 @@ public final class FirstAtTheFirst {
             if (bent != LOOKS) {
                 return chooseBlind(side, bent, left);
             }
-            if ((left & ~at(lookedInto, side)) != 0) {
-                lookAhead(side, left);
-            }
+            lookAhead(side, Integer.bitCount(left) - 1);
             return farthest(side, left);
         }
 
@@ -1136,11 +1152,16 @@ public final class FirstAtTheFirst {
             return best;
         }
 
-        /** Fills still for one SIDE that LOOKS; taking a THING makes a set's number smaller, so these come first. */
-        private void lookAhead(int side, int left) {
-            put(still, side * SETS, 0);
-            for (int set = 1; set <= left && set < SETS; set++) {
-                if ((set & ~left) == 0) {
+        /**
+         * Fills still for one SIDE that LOOKS and all sets of so many THINGS and fewer. Taking a THING makes a
+         * set's number smaller, so what is asked for is there.
+         */
+        private void lookAhead(int side, int count) {
+            int known = at(looked, side);
+            int leastLarger = (1 << known + 1) - 1;
+            for (int set = leastLarger; set <= start && set < SETS && known < count; set++) {
+                int size = Integer.bitCount(set);
+                if ((set & ~start) == 0 && size > known && size <= count) {
                     int mover = moverWhen(set);
                     int bent = bentOf(mover);
                     int thing = mover == side ? farthest(side, set)
@@ -1149,16 +1170,12 @@ public final class FirstAtTheFirst {
                     put(still, side * SETS + set, gain + stillGets(side, without(set, thing)));
                 }
             }
-            put(lookedInto, side, left);
+            put(looked, side, Math.max(known, count));
         }
 
         /** Fills still as in THE GAME; the THING taken first. */
         int lookAllAhead() {
-            forgetLooks();
             int thing = NONE;
-            for (int side = 0; side < SIDES_MOST; side++) {
-                put(still, side * SETS, 0);
-            }
             for (int set = 1; set <= start && set < SETS; set++) {
                 if ((set & ~start) == 0) {
                     int mover = moverWhen(set);
@@ -1460,7 +1477,6 @@ public final class FirstAtTheFirst {
         private void readOrder(Estate draft) {
             nextToken();
             boolean more = true;
-            draft.orderSize = 0;
             for (int i = 0; i < ORDER_MOST && more; i++) {
                 put(draft.order, i, readNumber(0, draft.sides - 1));
                 draft.orderSize = i + 1;

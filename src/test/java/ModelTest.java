@@ -3,7 +3,9 @@ import java.util.Random;
 /** Long runs of calls by draws (always the same ones), each answer compared with PlainModel's. */
 public final class ModelTest {
     private static final int RUNS = 1500;
-    private static final int CALLS = 512;
+    // An object is used for at most 512 calls; a step makes fewer than a hundred, the end some thirty.
+    private static final int CALLS = 512 - 130;
+    private static final int STEPS = 170;
     private static final String[] WORDS = {"sides", "thing", "law", "order", "bent", "turn", "owns", "lawn", "x"};
 
     private final Due due = new Due("ModelTest");
@@ -13,6 +15,7 @@ public final class ModelTest {
     private final PlainModel m = new PlainModel();
     // Runs with few things left are quick in PlainModel, so only some have many.
     private final int thingsWanted;
+    private int calls;
     private static int wrongRuns;
 
     private ModelTest(int run) {
@@ -42,6 +45,7 @@ public final class ModelTest {
     }
 
     private void same(String call, long got, long want) {
+        calls++;
         due.due(name + ": " + call, got, want);
     }
 
@@ -347,7 +351,7 @@ public final class ModelTest {
     }
 
     private void go() {
-        for (int i = 0; i < CALLS / 3; i++) {
+        for (int i = 0; i < STEPS && calls < CALLS; i++) {
             int kind = below(20);
             if (kind < 7) {
                 changes();
