@@ -1158,8 +1158,7 @@ public final class FirstAtTheFirst {
          */
         private void lookAhead(int side, int count) {
             int known = at(looked, side);
-            int leastLarger = (1 << known + 1) - 1;
-            for (int set = leastLarger; set <= start && set < SETS && known < count; set++) {
+            for (int set = 1; set <= start && set < SETS && known < count; set++) {
                 int size = Integer.bitCount(set);
                 if ((set & ~start) == 0 && size > known && size <= count) {
                     int mover = moverWhen(set);

@@ -8,6 +8,21 @@ final class Due {
         this.test = test;
     }
 
+    /** Ends the run with exit code 1 if it goes on for too long: a call that does not end is wrong, too. */
+    static void mustEndWithin(int seconds) {
+        Thread watch = new Thread(() -> {
+            try {
+                Thread.sleep(1000L * seconds);
+                System.out.println("not at its end after " + seconds + " seconds");
+                Runtime.getRuntime().halt(1);
+            } catch (InterruptedException e) {
+                Thread.currentThread().interrupt();
+            }
+        });
+        watch.setDaemon(true);
+        watch.start();
+    }
+
     void due(String call, long got, long want) {
         checks++;
         if (got != want) {

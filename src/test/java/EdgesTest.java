@@ -340,6 +340,20 @@ public final class EdgesTest {
                         + " fairest(NONE)=2 fairest(0..4)=0,2,2,1,1",
                 "'sides 3;thing 7 4 5;thing 6 9 9;thing 0 6 0;thing 9 5 7;thing 0 5 5;bent 0 3;bent 1 1;bent 2 4'=9"
                         + " fairest(NONE)=5 fairest(0..4)=1,2,2,0,0",
+                "'thing 8 10;thing 6 7;thing 6 3;thing 9 15;thing 17 19;thing 7 4;bent 0 5;bent 1 1'=8 fairest(NONE)=2"
+                        + " fairest(0..5)=0,1,1,0,0,1",
+                "'thing 17 16;thing 0 8;thing 0 15;thing 5 6;thing 16 12;thing 5 10;bent 0 5;bent 1 5'=8 fairest(NONE)=5"
+                        + " fairest(0..5)=0,0,0,1,1,1",
+                "'thing 10 3;thing 2 17;thing 8 17;thing 15 6;thing 7 6;thing 2 2;thing 6 17;bent 0 5;bent 1 2'=9 fairest(NONE)=0"
+                        + " fairest(0..6)=1,0,1,0,0,0,1",
+                "'thing 14 19;thing 17 2;thing 3 6;thing 10 2;thing 3 18;thing 14 2;thing 17 3;bent 0 3;bent 1 5'=9"
+                        + " fairest(NONE)=1 fairest(0..6)=0,0,1,0,1,1,1",
+                "'sides 3;thing 8 14 17;thing 3 11 16;thing 1 12 18;thing 19 16 7;thing 7 18 15;bent 0 5;bent 1 5;bent 2 5'=9"
+                        + " fairest(NONE)=11 fairest(0..4)=0,0,2,1,1",
+                "'sides 3;thing 12 4 12;thing 0 1 1;thing 15 1 11;thing 13 3 8;thing 16 18 15;bent 0 5;bent 1 2;bent 2 5'=9"
+                        + " fairest(NONE)=5 fairest(0..4)=1,0,2,2,0",
+                "'sides 3;thing 1 15 3;thing 4 9 16;thing 2 0 15;thing 11 13 18;thing 0 1 15;thing 4 0 0;bent 0 1;bent 1 5;bent 2 5'=10"
+                        + " fairest(NONE)=1 fairest(0..5)=0,0,1,1,2,2",
                 "'thing 4 1;thing 0 1;thing 4 3;bent 0 5;bent 1 5'=5 fairest(NONE)=0 fairest(0..2)=0,1,1 worth(1,0,4)=1"
                         + " fairest(NONE)=0",
                 "'sides 3;thing 2 2 3;thing 4 2 1;thing 0 1 3;thing 4 3 0;bent 0 5;bent 1 5;bent 2 2'=8 fairest(NONE)=1"
@@ -806,6 +820,7 @@ public final class EdgesTest {
     }
 
     public static void main(String[] args) throws Exception {
+        Due.mustEndWithin(300);
         EdgesTest t = new EdgesTest();
         t.anObject();
         t.sidesAndThings();

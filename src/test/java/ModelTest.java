@@ -371,6 +371,9 @@ public final class ModelTest {
     }
 
     public static void main(String[] args) {
+        if (args.length == 0) {
+            Due.mustEndWithin(300);
+        }
         int runs = args.length > 0 ? Integer.parseInt(args[0]) : RUNS;
         for (int run = 0; run < runs; run++) {
             ModelTest test = new ModelTest(run);

@@ -168,6 +168,7 @@ public final class RulesTest {
     }
 
     public static void main(String[] args) throws Exception {
+        Due.mustEndWithin(300);
         RulesTest t = new RulesTest();
         t.face();
         t.source();
