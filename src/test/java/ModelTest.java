@@ -2,7 +2,7 @@ import java.util.Random;
 
 /** Long runs of calls by draws (always the same ones), each answer compared with PlainModel's. */
 public final class ModelTest {
-    private static final int RUNS = 1500;
+    private static final int RUNS = 3000;
     // An object is used for at most 512 calls; a step makes fewer than a hundred, the end some thirty.
     private static final int CALLS = 512 - 130;
     private static final int STEPS = 170;
